@@ -14,6 +14,7 @@ public final class MapNames {
     private static final int LEVELS = 6;
     private static final int MOST_LINES = 6;
     private static final int MOST_FAULTS = 36;
+    private static final int MORE_THAN_ANY = 1000000;
 
     private final Chart chart;
     private final Boxes boxes;
@@ -164,7 +165,7 @@ public final class MapNames {
 
     public int full() {
         search.study(chart.size);
-        return search.countFull(0, search.freeBoxes(chart.everySite()));
+        return search.countFull();
     }
 
     public int with(int site, int corner) {
@@ -185,7 +186,7 @@ public final class MapNames {
         search.study(chart.size);
         int only = NONE;
         for (int corner = 0; corner < CORNERS; corner++) {
-            if (search.countFullWith(site, corner) > 0) {
+            if (search.isThereFullWith(site, corner)) {
                 if (only != NONE) {
                     return NONE;
                 }
@@ -198,7 +199,7 @@ public final class MapNames {
     public int greatest() {
         for (int size = GREATEST_SIZE; size >= 1; size--) {
             search.study(size);
-            if (search.canAllStand(chart.everySite())) {
+            if (search.isThereFull(chart.everySite())) {
                 return size;
             }
         }
@@ -211,7 +212,7 @@ public final class MapNames {
         int least = chart.worthOf(every);
         for (int away = 0; away <= every; away++) {
             int worth = chart.worthOf(away);
-            if (worth < least && search.canAllStand(every & ~away)) {
+            if (worth < least && search.isThereFull(every & ~away)) {
                 least = worth;
             }
         }
@@ -575,73 +576,81 @@ public final class MapNames {
             return free;
         }
 
+        /** The FREE boxes of all SITES but for those of one SITE at other CORNERS than this. */
+        private int freeBoxesWith(int site, int c) {
+            int own = 15 << boxOf(site, 0);
+            return freeBoxes(chart.everySite()) & (~own | 1 << boxOf(site, c));
+        }
+
         void findBest() {
             study(chart.size);
             bestWorth = -1;
-            seekBest(0, freeBoxes(chart.everySite()), 0, chart.worthOf(chart.everySite()));
+            seekBest(this, 0, freeBoxes(chart.everySite()), 0, chart.worthOf(chart.everySite()));
         }
 
         /** In the order of LAYOUTS: so of those of like WORTH the first is kept. */
-        private void seekBest(int site, int open, int worth, int atMost) {
-            if (atMost <= bestWorth) {
+        private static void seekBest(Search s, int site, int open, int worth, int atMost) {
+            if (atMost <= s.bestWorth) {
                 return;
             }
-            if (site >= chart.sites) {
-                bestWorth = worth;
-                System.arraycopy(corner, 0, bestCorner, 0, MOST_SITES);
+            if (site >= s.chart.sites) {
+                s.bestWorth = worth;
+                System.arraycopy(s.corner, 0, s.bestCorner, 0, MOST_SITES);
                 return;
             }
-            int own = chart.worth[site];
+            int own = s.chart.worth[site];
             for (int c = 0; c < CORNERS; c++) {
                 int box = boxOf(site, c);
                 if (hasBit(open, box)) {
-                    corner[site] = c;
-                    seekBest(site + 1, open & ~clashing[box], worth + own, atMost);
+                    s.corner[site] = c;
+                    seekBest(s, site + 1, open & ~s.clashing[box], worth + own, atMost);
                 }
             }
-            corner[site] = NONE;
-            seekBest(site + 1, open, worth, atMost - own);
+            s.corner[site] = NONE;
+            seekBest(s, site + 1, open, worth, atMost - own);
         }
 
-        int countFull(int site, int open) {
-            if (site >= chart.sites) {
+        int countFull() {
+            return countFrom(this, 0, freeBoxes(chart.everySite()));
+        }
+
+        int countFullWith(int site, int c) {
+            return countFrom(this, 0, freeBoxesWith(site, c));
+        }
+
+        private static int countFrom(Search s, int site, int open) {
+            if (site >= s.chart.sites) {
                 return 1;
             }
             int sum = 0;
             for (int c = 0; c < CORNERS; c++) {
                 int box = boxOf(site, c);
                 if (hasBit(open, box)) {
-                    sum += countFull(site + 1, open & ~clashing[box]);
+                    sum += countFrom(s, site + 1, open & ~s.clashing[box]);
                 }
             }
             return sum;
         }
 
-        int countFullWith(int site, int c) {
-            int others = 0;
-            for (int other = 0; other < CORNERS; other++) {
-                if (other != c) {
-                    others |= 1 << boxOf(site, other);
-                }
-            }
-            return countFull(0, freeBoxes(chart.everySite()) & ~others);
-        }
-
         /** Whether there is a FULL LAYOUT of the SITES of a set, if these are all SITES there are. */
-        boolean canAllStand(int set) {
-            return canStandFrom(0, set, freeBoxes(set));
+        boolean isThereFull(int set) {
+            return isFullFrom(this, 0, set, freeBoxes(set));
         }
 
-        private boolean canStandFrom(int site, int set, int open) {
-            if (site >= chart.sites) {
+        boolean isThereFullWith(int site, int c) {
+            return isFullFrom(this, 0, chart.everySite(), freeBoxesWith(site, c));
+        }
+
+        private static boolean isFullFrom(Search s, int site, int set, int open) {
+            if (site >= s.chart.sites) {
                 return true;
             }
             if (!hasBit(set, site)) {
-                return canStandFrom(site + 1, set, open);
+                return isFullFrom(s, site + 1, set, open);
             }
             for (int c = 0; c < CORNERS; c++) {
                 int box = boxOf(site, c);
-                if (hasBit(open, box) && canStandFrom(site + 1, set, open & ~clashing[box])) {
+                if (hasBit(open, box) && isFullFrom(s, site + 1, set, open & ~s.clashing[box])) {
                     return true;
                 }
             }
@@ -803,26 +812,26 @@ public final class MapNames {
                     lines++;
                 }
             }
-            fewest = Integer.MAX_VALUE;
-            shortest = Integer.MAX_VALUE;
-            seekDeal(0, 0, 0, 0);
+            fewest = MORE_THAN_ANY;
+            shortest = MORE_THAN_ANY;
+            seekDeal(this, 0, 0, 0, 0);
         }
 
         /** SITE by SITE from the least place on: so of like DEALS the first is kept. */
-        private void seekDeal(int line, int taken, int crossed, int sum) {
-            if (crossed > fewest || crossed == fewest && sum >= shortest) {
+        private static void seekDeal(Edge e, int line, int taken, int crossed, int sum) {
+            if (crossed > e.fewest || crossed == e.fewest && sum >= e.shortest) {
                 return;
             }
-            if (line >= lines) {
-                fewest = crossed;
-                shortest = sum;
-                System.arraycopy(place, 0, bestPlace, 0, MOST_LINES);
+            if (line >= e.lines) {
+                e.fewest = crossed;
+                e.shortest = sum;
+                System.arraycopy(e.place, 0, e.bestPlace, 0, MOST_LINES);
                 return;
             }
-            for (int p = 0; p < lines; p++) {
+            for (int p = 0; p < e.lines; p++) {
                 if (!hasBit(taken, p)) {
-                    place[line] = p;
-                    seekDeal(line + 1, taken | 1 << p, crossed + crossedBefore(line), sum + lengthOf(line));
+                    e.place[line] = p;
+                    seekDeal(e, line + 1, taken | 1 << p, crossed + e.crossedBefore(line), sum + e.lengthOf(line));
                 }
             }
         }
