@@ -392,6 +392,10 @@ public final class MapNames {
         return CORNERS * site + corner;
     }
 
+    private static int boxesOf(int site) {
+        return 15 << boxOf(site, 0);
+    }
+
     private static boolean hasBit(int set, int bit) {
         return (set >>> bit & 1) == 1;
     }
@@ -523,7 +527,7 @@ public final class MapNames {
         }
     }
 
-    /** Seeks through LAYOUTS, SITE by SITE, with the boxes that are still open as a set. */
+    /** Seeks through LAYOUTS, SITE by SITE, with the boxes that this and later SITES may still have as a set. */
     private static final class Search {
         final Chart chart;
         final Boxes boxes;
@@ -578,8 +582,7 @@ public final class MapNames {
 
         /** The FREE boxes of all SITES but for those of one SITE at other CORNERS than this. */
         private int freeBoxesWith(int site, int c) {
-            int own = 15 << boxOf(site, 0);
-            return freeBoxes(chart.everySite()) & (~own | 1 << boxOf(site, c));
+            return freeBoxes(chart.everySite()) & (~boxesOf(site) | 1 << boxOf(site, c));
         }
 
         void findBest() {
@@ -599,15 +602,21 @@ public final class MapNames {
                 return;
             }
             int own = s.chart.worth[site];
+            int rest = open & ~boxesOf(site);
             for (int c = 0; c < CORNERS; c++) {
                 int box = boxOf(site, c);
                 if (hasBit(open, box)) {
+                    int left = rest & ~s.clashing[box];
                     s.corner[site] = c;
-                    seekBest(s, site + 1, open & ~s.clashing[box], worth + own, atMost);
+                    seekBest(s, site + 1, left, worth + own, atMost);
+                    if (left == rest) {
+                        // It takes nothing from the others: so no CORNER behind it can be worth more.
+                        return;
+                    }
                 }
             }
             s.corner[site] = NONE;
-            seekBest(s, site + 1, open, worth, atMost - own);
+            seekBest(s, site + 1, rest, worth, atMost - own);
         }
 
         int countFull() {
@@ -623,13 +632,21 @@ public final class MapNames {
                 return 1;
             }
             int sum = 0;
+            int harmless = 0;
+            int rest = open & ~boxesOf(site);
             for (int c = 0; c < CORNERS; c++) {
                 int box = boxOf(site, c);
                 if (hasBit(open, box)) {
-                    sum += countFrom(s, site + 1, open & ~s.clashing[box]);
+                    int left = rest & ~s.clashing[box];
+                    if (left == rest) {
+                        harmless++;
+                    } else {
+                        sum += countFrom(s, site + 1, left);
+                    }
                 }
             }
-            return sum;
+            // Those that take nothing from the others all leave as many ways: counted once.
+            return harmless > 0 ? sum + harmless * countFrom(s, site + 1, rest) : sum;
         }
 
         /** Whether there is a FULL LAYOUT of the SITES of a set, if these are all SITES there are. */
@@ -648,10 +665,16 @@ public final class MapNames {
             if (!hasBit(set, site)) {
                 return isFullFrom(s, site + 1, set, open);
             }
+            int rest = open & ~boxesOf(site);
             for (int c = 0; c < CORNERS; c++) {
                 int box = boxOf(site, c);
-                if (hasBit(open, box) && isFullFrom(s, site + 1, set, open & ~s.clashing[box])) {
-                    return true;
+                if (hasBit(open, box)) {
+                    int left = rest & ~s.clashing[box];
+                    boolean is = isFullFrom(s, site + 1, set, left);
+                    if (is || left == rest) {
+                        // What takes nothing from the others fails only if every CORNER does.
+                        return is;
+                    }
                 }
             }
             return false;
