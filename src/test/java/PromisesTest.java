@@ -447,6 +447,12 @@ public final class PromisesTest {
         for (int no : NO_SITE) {
             due(11, "SITE " + no, m.at(no), UNKNOWN);
         }
+        for (int corner = 0; corner < 4; corner++) {
+            m.allow(0, corner, false);
+        }
+        due(11, "no CORNER is FREE", m.at(0), NONE);
+        due(11, "the other stays", m.at(1), 1);
+        due(10, "the other alone", m.best(), 3);
     }
 
     private static void named() {
@@ -572,6 +578,15 @@ public final class PromisesTest {
         m.allow(0, 0, false);
         m.allow(1, 2, false);
         due(17, "both", m.least(), 9);
+        m = three();
+        for (int corner = 1; corner < 4; corner++) {
+            m.allow(2, corner, false);
+        }
+        due(17, "two leave the first CORNER to the third", m.least(), 0);
+        due(16, "they do at each SIZE", m.greatest(), 40);
+        due(15, "in each FULL LAYOUT", m.sure(2), 0);
+        due(11, "in the best too", m.at(2), 0);
+        due(11, "so the first goes on", m.at(0), 1);
         // SITE 0 lies in the only box that SITE 1 may have: with SITE 0 away it is covered no more.
         m = new MapNames();
         m.map(10, 10);
