@@ -450,8 +450,9 @@ public final class PromisesTest {
         for (int corner = 0; corner < 4; corner++) {
             m.allow(0, corner, false);
         }
+        m.allow(1, 0, true);
         due(11, "no CORNER is FREE", m.at(0), NONE);
-        due(11, "the other stays", m.at(1), 1);
+        due(11, "the other has its first", m.at(1), 0);
         due(10, "the other alone", m.best(), 3);
     }
 
