@@ -17,11 +17,20 @@ public final class LanguageTest {
         "put(II)", "hand(I)", "take()", "faults()", "faultsOf(I)", "stir()", "settle()", "stands()",
         "shown(I)", "comes(I)", "shownAt(I)",
         "crosses(I)", "length(I)", "place(II)", "cross(IIII)", "count(I)"};
+    private static final Set<String> FACE_NAMES = namesOf(FACE);
     private static final Set<String> CONSTANTS = Set.of("UNKNOWN", "OUTSIDE", "STATE", "FULL", "NONE");
     private static final Set<String> LIBRARY = Set.of(
         "Math.max", "Math.min", "Math.abs", "Integer.bitCount", "System.arraycopy");
     private static final String BANNED = "\\b(import|package|throw|throws|try|catch|synchronized|assert)\\b|static \\{|->|::|@";
     private static int wrong = 0;
+
+    private static Set<String> namesOf(String[] face) {
+        Set<String> names = new TreeSet<>();
+        for (String call : face) {
+            names.add(call.substring(0, call.indexOf('(')));
+        }
+        return names;
+    }
 
     private static void must(boolean is, int rule, String what) {
         if (!is) {
@@ -76,6 +85,7 @@ public final class LanguageTest {
             must(c.getDeclaredFields().length <= 20, 11, "fields of " + c);
             for (Method m : c.getDeclaredMethods()) {
                 must(m.getParameterCount() <= 7, 11, "parameters of " + m);
+                must(!FACE_NAMES.contains(m.getName()), 1, "a public name: " + m);
             }
             for (Field f : c.getDeclaredFields()) {
                 must(!Modifier.isStatic(f.getModifiers()) || Modifier.isFinal(f.getModifiers()), 5, "static: " + f);

@@ -15,7 +15,11 @@ public final class OracleTest {
     public static void main(String[] args) {
         int calls = 0;
         for (int seed = 0; seed < 1500; seed++) {
-            calls += run(seed);
+            calls += run(seed, 60);
+        }
+        // As many calls as an object is good for.
+        for (int seed = 1501; seed < 1540; seed++) {
+            calls += run(seed, 512);
         }
         System.out.println(calls + " calls, " + wrong + " answers are not as due");
         if (wrong != 0) {
@@ -23,7 +27,7 @@ public final class OracleTest {
         }
     }
 
-    private static int run(int seed) {
+    private static int run(int seed, int calls) {
         Random random = new Random(seed);
         MapNames real = new MapNames();
         Oracle oracle = new Oracle();
@@ -31,7 +35,6 @@ public final class OracleTest {
         // Many SITES make each LAYOUT question dear for the oracle, so most runs have few of them.
         int most = seed % 100 == 0 ? 8 : 2 + seed % 5;
         int mapSide = 10 + random.nextInt(seed % 3 == 0 ? 391 : 90);
-        int calls = 60;
         for (int i = 0; i < calls; i++) {
             int[] call = nextCall(random, oracle, i, most, mapSide);
             int got = ask(real, call);

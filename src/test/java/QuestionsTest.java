@@ -3,7 +3,7 @@ import java.util.List;
 
 /**
  * A question answers the same on a new object as behind any other question: none changes anything,
- * and none answers with what another one left behind.
+ * and none answers with what another one left behind. Nor does an object know of another one.
  */
 public final class QuestionsTest {
     private static final String[] NAMES = {"count", "about", "free", "clash", "best", "at", "named", "full", "with",
@@ -23,6 +23,7 @@ public final class QuestionsTest {
                 }
             }
             behindAll(sites, questions);
+            sideBySide(sites, questions);
         }
         System.out.println(wrong == 0 ? "questions change nothing" : wrong + " answers are not as due");
         if (wrong != 0) {
@@ -57,6 +58,28 @@ public final class QuestionsTest {
             for (int[] q : questions) {
                 due(sites, q, q, ask(asked, q), ask(fresh, q));
             }
+        }
+    }
+
+    /** Two objects that are asked by turns answer as each does alone, also while the other one is changed. */
+    private static void sideBySide(int sites, List<int[]> questions) {
+        MapNames one = world(sites);
+        MapNames two = world(8 - sites);
+        MapNames oneAlone = world(sites);
+        MapNames twoAlone = world(8 - sites);
+        int[] first = new int[questions.size()];
+        for (int i = 0; i < first.length; i++) {
+            first[i] = ask(oneAlone, questions.get(i));
+        }
+        for (int i = 0; i < first.length; i++) {
+            int[] q = questions.get(i);
+            if (i % 10 == 0) {
+                due(8 - sites, q, q, change(two, i / 10 % 3), change(twoAlone, i / 10 % 3));
+                two.rule(0, 1 + i % 40);
+                twoAlone.rule(0, 1 + i % 40);
+            }
+            due(sites, q, q, ask(one, q), first[i]);
+            due(8 - sites, q, q, ask(two, q), ask(twoAlone, q));
         }
     }
 
